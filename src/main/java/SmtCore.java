@@ -33,6 +33,9 @@ public final class SmtCore {
     private static final int CODE_LENGTH = 24;
     private static final int REGISTERS = 8;
     private static final int CELLS = 16;
+    private static final int ALL_CODE = MOST_THREADS * CODE_LENGTH;
+    private static final int ALL_REGISTERS = MOST_THREADS * REGISTERS;
+    private static final int ALL_CELLS = MOST_THREADS * CELLS;
     private static final int GREATEST_OP = 15;
     private static final int GREATEST_REGS = 511;
 
@@ -43,11 +46,11 @@ public final class SmtCore {
     private final int window;
 
     // Each thread owns one stretch of these arrays, so that no thread can reach what belongs to another.
-    private final int[] codeOp = new int[MOST_THREADS * CODE_LENGTH];
-    private final int[] codeRegs = new int[MOST_THREADS * CODE_LENGTH];
-    private final int[] codeImm = new int[MOST_THREADS * CODE_LENGTH];
-    private final int[] registers = new int[MOST_THREADS * REGISTERS];
-    private final int[] memory = new int[MOST_THREADS * CELLS];
+    private final int[] codeOp = new int[ALL_CODE];
+    private final int[] codeRegs = new int[ALL_CODE];
+    private final int[] codeImm = new int[ALL_CODE];
+    private final int[] registers = new int[ALL_REGISTERS];
+    private final int[] memory = new int[ALL_CELLS];
 
     private final int[] codeSize = new int[MOST_THREADS];
     private final int[] counter = new int[MOST_THREADS];
@@ -261,15 +264,15 @@ public final class SmtCore {
         int b = readB(thread, slot);
         int imm = codeImm[slot];
         int next = nextCounter(op, p, a, b, imm);
+        int e = a + imm;
         int v;
         if (op == STORE) {
-            int e = a + imm;
             memory[thread * CELLS + e] = b;
             v = 5 * e + b;
         } else if (op == BEQ || op == BLT || op == JUMPR) {
             v = next;
         } else {
-            v = op == LOAD ? memory[thread * CELLS + a + imm] : result(op, p, a, b, imm);
+            v = op == LOAD ? memory[thread * CELLS + e] : result(op, p, a, b, imm);
             registers[thread * REGISTERS + (codeRegs[slot] & 7)] = v;
         }
         counter[thread] = next;

@@ -16,6 +16,7 @@ public final class StepTest {
         readsComeBeforeTheWrite();
         stopsChangeNothingElse();
         countersOutsideTheCode();
+        threadsAreApart();
         DUE.end();
     }
 
@@ -257,5 +258,22 @@ public final class StepTest {
         x.restart(1, -1);
         DUE.same("runOne(1, 1) at -1", x.runOne(1, 1), 0);
         DUE.same("status(1) at -1", x.status(1), SmtCore.PC_TRAP);
+    }
+
+    private static void threadsAreApart() {
+        SmtCore x = Asm.four();
+        for (int t = 0; t < 4; t++) {
+            x.emit(t, Asm.LOAD, Asm.regs(1, 0, 0), 0);
+            x.emit(t, Asm.STORE, Asm.regs(0, 0, 1), 15);
+            x.setMem(t, 0, 100 + t);
+        }
+        DUE.same("run(2)", x.run(2), 8);
+        for (int t = 0; t < 4; t++) {
+            DUE.same("reg(" + t + ", 1) after LOAD", x.reg(t, 1), 100 + t);
+            for (int a = 0; a < 16; a++) {
+                int want = a == 0 || a == 15 ? 100 + t : 0;
+                DUE.same("mem(" + t + ", " + a + ") after STORE", x.mem(t, a), want);
+            }
+        }
     }
 }
