@@ -12,9 +12,9 @@ final class NewObjectEdges {
         s.under("Promise 1: A new object");
         s.plain("`SmtCore(int threads, int width, int spare, int window)`:");
         s.holds("threads is clamped into 1 to 4,", NewObjectEdges::threadsClamped);
-        s.holds("width (instructions a cycle) into 1 to 4,", NewObjectEdges::anyWidth);
-        s.holds("spare (physical registers beyond eight a thread) into 2 to 24,", NewObjectEdges::anySpare);
-        s.holds("window (instructions in flight a thread) into 2 to 12:", NewObjectEdges::anyWindow);
+        s.holds("width (instructions a cycle) into 1 to 4,", NewObjectEdges::widthClamped);
+        s.holds("spare (physical registers beyond eight a thread) into 2 to 24,", NewObjectEdges::spareClamped);
+        s.holds("window (instructions in flight a thread) into 2 to 12:", NewObjectEdges::windowClamped);
         s.holds("below the least becomes the least, above the greatest the greatest.",
             NewObjectEdges::clampedIsTheNearest);
         s.holds("Every thread starts with no code, all registers and memory cells 0, counter 0, status RUNNING,"
@@ -33,39 +33,54 @@ final class NewObjectEdges {
         }
     }
 
-    // No answer tells how these three were clamped: what can be seen is that every value is taken and answers alike.
-
-    private static void anyWidth(Edge e) {
-        String usual = StepEdges.answers(e.core(2, 2, 8, 8));
-        for (int width : new int[] {LEAST, -1, 0, 1, 2, 3, 4, 5, GREATEST}) {
-            e.alike("width " + width, StepEdges.answers(e.core(2, width, 8, 8)), usual);
+    private static void widthClamped(Edge e) {
+        String usual = StepEdges.answers(e.core(2));
+        int[][] cases = {{LEAST, 1}, {-1, 1}, {0, 1}, {1, 1}, {2, 2}, {3, 3}, {4, 4}, {5, 4}, {GREATEST, 4}};
+        for (int[] one : cases) {
+            keeps(e, new SmtCore(2, one[0], 8, 8), "width", one[1]);
+            e.alike("width " + one[0], StepEdges.answers(e.core(2, one[0], 8, 8)), usual);
         }
     }
 
-    private static void anySpare(Edge e) {
-        String usual = StepEdges.answers(e.core(2, 2, 8, 8));
-        for (int spare : new int[] {LEAST, -1, 0, 1, 2, 3, 23, 24, 25, GREATEST}) {
-            e.alike("spare " + spare, StepEdges.answers(e.core(2, 2, spare, 8)), usual);
+    private static void spareClamped(Edge e) {
+        String usual = StepEdges.answers(e.core(2));
+        int[][] cases = {{LEAST, 2}, {-1, 2}, {0, 2}, {1, 2}, {2, 2}, {3, 3}, {23, 23}, {24, 24}, {25, 24},
+            {GREATEST, 24}};
+        for (int[] one : cases) {
+            keeps(e, new SmtCore(2, 2, one[0], 8), "spare", one[1]);
+            e.alike("spare " + one[0], StepEdges.answers(e.core(2, 2, one[0], 8)), usual);
         }
     }
 
-    private static void anyWindow(Edge e) {
-        String usual = StepEdges.answers(e.core(2, 2, 8, 8));
-        for (int window : new int[] {LEAST, -1, 0, 1, 2, 3, 11, 12, 13, GREATEST}) {
-            e.alike("window " + window, StepEdges.answers(e.core(2, 2, 8, window)), usual);
+    private static void windowClamped(Edge e) {
+        String usual = StepEdges.answers(e.core(2));
+        int[][] cases = {{LEAST, 2}, {-1, 2}, {0, 2}, {1, 2}, {2, 2}, {3, 3}, {11, 11}, {12, 12}, {13, 12},
+            {GREATEST, 12}};
+        for (int[] one : cases) {
+            keeps(e, new SmtCore(2, 2, 8, one[0]), "window", one[1]);
+            e.alike("window " + one[0], StepEdges.answers(e.core(2, 2, 8, one[0])), usual);
         }
     }
 
+    /** No answer tells how the core's size was clamped, so this looks at the field that the class keeps it in. */
+    private static void keeps(Edge e, SmtCore core, String name, int due) {
+        int kept = Inside.number(core, name);
+        e.right(kept == due, () -> name + " is kept as " + kept + ", due is " + due);
+    }
+
+    /** All four at once. */
     private static void clampedIsTheNearest(Edge e) {
-        for (int below : new int[] {LEAST, -1, 0}) {
-            Watched x = e.core(below, below, below, below);
-            x.due(SmtCore.RUNNING).status(0);
-            x.due(SmtCore.BAD_THREAD).status(1);
-        }
-        for (int above : new int[] {25, GREATEST}) {
-            Watched x = e.core(above, above, above, above);
-            x.due(SmtCore.RUNNING).status(3);
-            x.due(SmtCore.BAD_THREAD).status(4);
+        int[][] cases = {{LEAST, 1, 1, 2, 2}, {0, 1, 1, 2, 2}, {3, 3, 3, 3, 3}, {25, 4, 4, 24, 12},
+            {GREATEST, 4, 4, 24, 12}};
+        for (int[] one : cases) {
+            SmtCore core = new SmtCore(one[0], one[0], one[0], one[0]);
+            keeps(e, core, "threads", one[1]);
+            keeps(e, core, "width", one[2]);
+            keeps(e, core, "spare", one[3]);
+            keeps(e, core, "window", one[4]);
+            Watched x = e.core(one[0], one[0], one[0], one[0]);
+            x.due(SmtCore.RUNNING).status(one[1] - 1);
+            x.due(SmtCore.BAD_THREAD).status(one[1]);
         }
     }
 

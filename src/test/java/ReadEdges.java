@@ -154,7 +154,7 @@ final class ReadEdges {
         }
     }
 
-    /** Neither a restart nor a stop sets it back, only a reset does; its wrap lies beyond 512 calls. */
+    /** Neither a restart nor a stop sets it back, only a reset does; StepEdges has the wrap. */
     private static void retired(Edge e) {
         Watched x = e.core(2);
         x.due(0).retired(0);
@@ -178,6 +178,12 @@ final class ReadEdges {
             due += x.due(40).runOne(0, 40);
         }
         x.due(due).retired(0);
+        Watched wrapped = e.busy();
+        for (int count : VALUES) {
+            wrapped.putRetired(3, count);
+            wrapped.due(count).retired(3);
+            wrapped.due(6).retired(0);
+        }
     }
 
     private static void retiredOfNoThread(Edge e) {

@@ -155,24 +155,27 @@ final class StepEdges {
         }
     }
 
-    /** 20400 is the most that 512 calls can bring the count to; the wrap lies beyond what an object is used for. */
+    /** 20400 is the most that 512 calls can bring the count to, so the wrap has to be put within reach. */
     private static void countsRetired(Edge e) {
         Watched x = e.core(1);
+        x.due(0).retired(0);
         x.emit(0, Asm.BEQ, 0, 0);
-        int due = 0;
-        while (x.calls() < Watched.MOST_CALLS - 1) {
-            due += x.due(40).run(40);
+        x.due(1).run(1);
+        x.due(1).retired(0);
+        Watched most = e.core(1);
+        most.emit(0, Asm.BEQ, 0, 0);
+        while (most.calls() < Watched.MOST_CALLS - 1) {
+            most.due(40).run(40);
         }
-        x.due(due).retired(0);
-        int most = due;
-        e.right(most == 20400, () -> "the test itself: the count came to " + most);
-        Watched one = e.core(1);
-        one.due(0).retired(0);
-        one.emit(0, Asm.SET, 0, 0);
-        one.due(1).run(1);
-        one.due(1).retired(0);
-        one.due(0).run(1);
-        one.due(1).retired(0);
+        most.due(20400).retired(0);
+        for (int count : new int[] {LEAST, -1, GREATEST - 1, GREATEST}) {
+            x.putRetired(0, count);
+            x.due(1).run(1);
+            x.due(count == GREATEST ? LEAST : count + 1).retired(0);
+        }
+        x.putRetired(0, GREATEST - 20);
+        x.due(40).run(40);
+        x.due(LEAST + 19).retired(0);
     }
 
     /** At p the digest, which is 'before', takes in v. */

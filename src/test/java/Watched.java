@@ -122,6 +122,11 @@ final class Watched {
         return answered(core.size(thread), "size", thread);
     }
 
+    /** Puts the count of retired instructions where no 512 calls can bring it. */
+    void putRetired(int thread, int count) {
+        Inside.array(core, "retiredCount")[thread] = count;
+    }
+
     /** All that can be read of a thread, in 29 calls. */
     String state(int thread) {
         StringBuilder all = new StringBuilder("size " + size(thread) + " pc " + pc(thread) + " status "
