@@ -11,7 +11,7 @@ final class CodeEdges {
 
     static void add(Sentences s) {
         s.under("Promise 2: emit");
-        s.plain("`int emit(int thread, int op, int regs, int imm)`:");
+        s.declares("int emit(int thread, int op, int regs, int imm)");
         s.holds("Appends an instruction to the thread's code.", CodeEdges::appends);
         s.holds("Tests in this order:", CodeEdges::orderOfTests);
         s.holds("thread not good: BAD_THREAD;", CodeEdges::emitThread);
@@ -22,7 +22,7 @@ final class CodeEdges {
         s.holds("Else answers the index of the new instruction.", CodeEdges::emitAnswers);
         s.holds("Allowed in any status; changes neither status nor counter.", CodeEdges::emitInAnyStatus);
         s.under("Promise 3: retarget");
-        s.plain("`int retarget(int thread, int index, int imm)`:");
+        s.declares("int retarget(int thread, int index, int imm)");
         s.holds("Gives instruction 'index' of the thread a new constant.", CodeEdges::newConstant);
         s.holds("Thread not good: BAD_THREAD;", CodeEdges::retargetThread);
         s.holds("index not in 0 to size - 1: BAD_INDEX;", CodeEdges::retargetIndex);

@@ -1,95 +1,78 @@
 import java.io.IOException;
-import java.lang.reflect.Constructor;
-import java.lang.reflect.Field;
 import java.lang.reflect.Method;
 import java.lang.reflect.Modifier;
 import java.nio.file.Files;
 import java.nio.file.Path;
+import java.util.List;
 import java.util.Set;
 import java.util.TreeSet;
 import java.util.regex.Matcher;
 import java.util.regex.Pattern;
+import java.util.stream.Collectors;
 
-/** The public face is the document's, nothing more, and the source keeps the rules a scan can see. */
+/** "The public face" of the document, and rule 1 of LANGUAGE.md: the class shows just that and is one class. */
 public final class FaceTest {
     private static final Due DUE = new Due("face");
-    private static final String[] METHODS = {"emit 4", "retarget 3", "setReg 3", "setMem 3", "restart 2", "reset 1",
-        "run 1", "runOne 2", "reg 2", "mem 2", "pc 1", "status 1", "retired 1", "digest 1", "size 1"};
-    private static final String[] CONSTANTS = {"BAD_THREAD -1", "BAD_OP -2", "BAD_REGS -3", "CODE_FULL -4",
-        "BAD_INDEX -5", "RUNNING 0", "HALTED 1", "DIVIDE_TRAP 2", "ADDRESS_TRAP 3", "PC_TRAP 4"};
-    private static final String FORBIDDEN = "import|package|float|double|String|Math|Integer|System|Arrays|Object|null"
-        + "|throw|throws|try|catch|finally|synchronized|assert|instanceof|enum|record|interface|protected|extends"
-        + "|implements|toString|equals|hashCode|->|::|\\[\\]\\s*\\[";
+    private static final String HEAD = "public final class SmtCore {";
 
-    public static void main(String[] args) throws IOException, IllegalAccessException {
-        methodsAreTheDocuments();
-        constantsAreTheDocuments();
-        classIsOne();
-        sourceKeepsTheRules();
+    public static void main(String[] args) throws IOException {
+        Set<String> face = publicLines(javaOf(Files.readString(Path.of("../shared/DOC.md"))));
+        DUE.same("the document's face has its class, constants, constructor and methods", face.size(), 27);
+        showsJustTheFace(face);
+        declaresItAsTheDocument(face);
+        isOneClass();
+        privateNamesAreOthers();
+        isTheOnlyFile();
         DUE.end();
     }
 
-    private static void methodsAreTheDocuments() {
+    private static String javaOf(String document) {
+        Matcher block = Pattern.compile("(?s)## The public face\\s+```java\n(.*?)```").matcher(document);
+        return block.find() ? block.group(1) : "";
+    }
+
+    private static Set<String> publicLines(String java) {
+        return java.lines().filter(line -> line.contains("public ")).map(line -> line.strip().replaceAll(" ?[;{]$", ""))
+            .collect(Collectors.toCollection(TreeSet::new));
+    }
+
+    private static void showsJustTheFace(Set<String> face) {
+        Set<String> due = new TreeSet<>();
+        for (String line : face) {
+            due.add(Face.bare(line));
+        }
+        due.remove(Face.bare(HEAD));
+        DUE.sameThread("reading what the class shows", Face.shown().toString(), due.toString());
+    }
+
+    /** As text, because the names of parameters don't show from outside. */
+    private static void declaresItAsTheDocument(Set<String> face) throws IOException {
+        DUE.sameThread("reading the source", publicLines(Source.read().bare()).toString(), face.toString());
+    }
+
+    private static void isOneClass() {
+        int how = SmtCore.class.getModifiers();
+        DUE.same("rule 1, public and final", Modifier.isPublic(how) && Modifier.isFinal(how) ? 1 : 0, 1);
+        DUE.same("rule 1, nested classes", SmtCore.class.getDeclaredClasses().length, 0);
+        DUE.same("rule 1, a package", SmtCore.class.getPackageName().isEmpty() ? 0 : 1, 0);
+        DUE.same("rule 1, another class above it", SmtCore.class.getSuperclass() == Object.class ? 0 : 1, 0);
+        DUE.same("rule 1, interfaces", SmtCore.class.getInterfaces().length, 0);
+    }
+
+    private static void privateNamesAreOthers() {
         Set<String> open = new TreeSet<>();
         Set<String> hidden = new TreeSet<>();
         for (Method method : SmtCore.class.getDeclaredMethods()) {
-            DUE.same(method + " takes at most seven", method.getParameterCount() <= 7 ? 1 : 0, 1);
-            if (Modifier.isPrivate(method.getModifiers())) {
-                hidden.add(method.getName());
-                continue;
-            }
-            open.add(method.getName() + " " + method.getParameterCount());
-            DUE.same(method + " is public", Modifier.isPublic(method.getModifiers()) ? 1 : 0, 1);
-            DUE.same(method + " is static", Modifier.isStatic(method.getModifiers()) ? 1 : 0, 0);
-            DUE.same(method + " answers int", method.getReturnType() == int.class ? 1 : 0, 1);
-            for (Class<?> type : method.getParameterTypes()) {
-                DUE.same(method + " takes int", type == int.class ? 1 : 0, 1);
-            }
+            (Modifier.isPrivate(method.getModifiers()) ? hidden : open).add(method.getName());
         }
-        DUE.sameThread("reading the methods", open.toString(), new TreeSet<>(Set.of(METHODS)).toString());
-        for (String name : METHODS) {
-            String bare = name.substring(0, name.indexOf(' '));
-            DUE.same("a private method called " + bare, hidden.contains(bare) ? 1 : 0, 0);
-        }
+        hidden.retainAll(open);
+        DUE.sameThread("rule 1, private methods with a public one's name", hidden.toString(), "[]");
     }
 
-    private static void constantsAreTheDocuments() throws IllegalAccessException {
-        Set<String> open = new TreeSet<>();
-        for (Field field : SmtCore.class.getDeclaredFields()) {
-            int how = field.getModifiers();
-            if (Modifier.isStatic(how)) {
-                boolean number = field.getType() == int.class || field.getType() == long.class;
-                DUE.same(field + " is a constant number", number && Modifier.isFinal(how) ? 1 : 0, 1);
-            }
-            if (!Modifier.isPrivate(how)) {
-                DUE.same(field + " is public static", Modifier.isPublic(how) && Modifier.isStatic(how) ? 1 : 0, 1);
-                open.add(field.getName() + " " + field.getInt(null));
-            }
-        }
-        DUE.sameThread("reading the constants", open.toString(), new TreeSet<>(Set.of(CONSTANTS)).toString());
-    }
-
-    private static void classIsOne() {
-        int how = SmtCore.class.getModifiers();
-        DUE.same("SmtCore is public and final", Modifier.isPublic(how) && Modifier.isFinal(how) ? 1 : 0, 1);
-        DUE.same("nested classes", SmtCore.class.getDeclaredClasses().length, 0);
-        Constructor<?>[] makers = SmtCore.class.getDeclaredConstructors();
-        DUE.same("constructors", makers.length, 1);
-        DUE.same("the constructor's numbers", makers[0].getParameterCount(), 4);
-        DUE.same("the constructor is public", Modifier.isPublic(makers[0].getModifiers()) ? 1 : 0, 1);
-    }
-
-    private static void sourceKeepsTheRules() throws IOException {
-        String source = Files.readString(Path.of("src/main/java/SmtCore.java"));
-        String bare = source.replaceAll("(?s)/\\*.*?\\*/", " ").replaceAll("//[^\n]*", " ");
-        Matcher found = Pattern.compile("(?<![A-Za-z_])(" + FORBIDDEN + ")(?![A-Za-z_])").matcher(bare);
-        while (found.find()) {
-            DUE.same("'" + found.group() + "' in the source", 1, 0);
-        }
-        Matcher made = Pattern.compile("(?m)^(.*)\\bnew\\b").matcher(bare);
-        while (made.find()) {
-            boolean field = made.group(1).matches(" {4}private final int\\[\\] \\w+ = ");
-            DUE.same("'new' only in a field's initialiser: " + made.group(), field ? 1 : 0, 1);
+    private static void isTheOnlyFile() throws IOException {
+        try (var files = Files.walk(Path.of("src/main"))) {
+            List<String> found = files.filter(Files::isRegularFile).map(Path::toString).toList();
+            DUE.sameThread("rule 1, the program's files", found.toString(), "[src/main/java/SmtCore.java]");
         }
     }
 }

@@ -1,26 +1,118 @@
 import java.io.IOException;
 import java.lang.reflect.Field;
+import java.lang.reflect.Method;
 import java.lang.reflect.Modifier;
-import java.nio.file.Files;
-import java.nio.file.Path;
-import java.util.LinkedHashMap;
+import java.util.HashSet;
+import java.util.List;
 import java.util.Map;
+import java.util.Set;
 import java.util.regex.Matcher;
 import java.util.regex.Pattern;
 
-/** Rules 8 and 10 of LANGUAGE.md, as far as a scan of the source can see; FaceTest has the others. */
+/** Rules 2 to 11 of LANGUAGE.md, as far as a scan of the source can see; FaceTest has rule 1, NoThrowTest rule 7. */
 public final class LanguageTest {
     private static final Due DUE = new Due("language");
+    private static final String TYPES = "int|long|short|byte|char|boolean";
+    private static final Set<String> WORDS = Set.of("public", "private", "static", "final", "class", "int", "long",
+        "short", "byte", "char", "boolean", "void", "if", "else", "for", "while", "do", "switch", "case", "default",
+        "break", "continue", "return", "new", "this", "true", "false", "SmtCore");
+    private static final int MOST_PARAMETERS = 7;
     private static final int MOST_DEPTH = 6;
     private static final int MOST_LINES = 60;
     private static final int MOST_FIELDS = 40;
-    /** Stands for a depth that no finite chain of calls can have. */
+    /** Stands for a depth that only a chain of calls without an end is likely to have. */
     private static final int ENDLESS = 1000;
 
     public static void main(String[] args) throws IOException {
-        String source = Files.readString(Path.of("src/main/java/SmtCore.java"));
-        String bare = source.replaceAll("(?s)/\\*.*?\\*/", " ").replaceAll("//[^\n]*", " ");
-        Map<String, String> bodies = methodsOf(bare);
+        Source source = Source.read();
+        onlyWordsOfItsOwn(source);
+        onlyWholeNumbers(source);
+        arraysAreMadeOnce(source);
+        arraysAreOnlyIndexed(source);
+        staticFieldsAreConstants(source);
+        divisorsAreLookedAt(source);
+        everyLoopCountsToABound(source);
+        methodsAreShallowAndShort(source.methods());
+        noCallInsideArguments(source.bare(), source.methods());
+        fewFields();
+        DUE.end();
+    }
+
+    /** Rules 2, 3, 6, 9 and 11: a word that is neither the language's nor declared here would be somebody else's. */
+    private static void onlyWordsOfItsOwn(Source source) {
+        Set<String> known = new HashSet<>(WORDS);
+        known.addAll(source.all("\\b(?:" + TYPES + "|void)(?:\\[\\])? (\\w+)", 1));
+        for (String word : source.all("(?<![\\w$])[A-Za-z_$][\\w$]*", 0)) {
+            DUE.same("rules 2, 3, 6, 9 and 11, the word " + word, known.contains(word) ? 1 : 0, 1);
+        }
+        for (String mark : source.all("->|::|@|\"|(?<!\\bthis)\\.", 0)) {
+            DUE.same("rules 2, 3 and 6, the mark " + mark, 1, 0);
+        }
+    }
+
+    private static void onlyWholeNumbers(Source source) {
+        for (String number : source.all("(?<![\\w$])\\d[\\w.]*", 0)) {
+            DUE.same("rule 2, the number " + number, number.matches("\\d+L?|0x[0-9a-f]+L?") ? 1 : 0, 1);
+        }
+        for (Field field : SmtCore.class.getDeclaredFields()) {
+            boolean whole = field.getType().getTypeName().matches("(" + TYPES + ")(\\[\\])?");
+            DUE.same("rule 2, the type of " + field, whole ? 1 : 0, 1);
+        }
+        for (Method method : SmtCore.class.getDeclaredMethods()) {
+            boolean whole = method.getReturnType().getTypeName().matches(TYPES + "|void");
+            DUE.same("rules 2 and 4, the answer of " + method, whole ? 1 : 0, 1);
+        }
+    }
+
+    /** Rule 4: in a final field's initialiser, with a literal or a constant for length. */
+    private static void arraysAreMadeOnce(Source source) {
+        String field = " {4}private final (" + TYPES + ")\\[\\] \\w+ = new \\1\\[([A-Z_]+|\\d+)\\];";
+        for (String line : source.all("(?m)^.*(?:\\bnew\\b|\\[\\s*\\]).*$", 0)) {
+            DUE.same("rule 4, an array's field: " + line.strip(), line.matches(field) ? 1 : 0, 1);
+        }
+        SmtCore core = Asm.single();
+        for (String name : arrayNames(source)) {
+            DUE.same("rule 4, the length of " + name, Inside.array(core, name).length >= 1 ? 1 : 0, 1);
+        }
+    }
+
+    private static List<String> arrayNames(Source source) {
+        return source.all("\\[\\] (\\w+) =", 1);
+    }
+
+    /** Rule 4: so no array is answered, compared, assigned or handed on. */
+    private static void arraysAreOnlyIndexed(Source source) {
+        for (String name : arrayNames(source)) {
+            DUE.same("rule 4, without an index: " + name, source.all("\\b" + name + "\\b(?!\\[)", 0).size(), 1);
+        }
+    }
+
+    private static void staticFieldsAreConstants(Source source) {
+        List<String> constants = source.all("static final (?:int|long) (\\w+) = [A-Z_\\d *+-]+;", 1);
+        for (Field field : SmtCore.class.getDeclaredFields()) {
+            if (Modifier.isStatic(field.getModifiers())) {
+                DUE.same("rule 5, a constant: " + field, constants.contains(field.getName()) ? 1 : 0, 1);
+            }
+        }
+        DUE.same("rule 5, static initialisers", source.all("\\bstatic\\s*\\{", 0).size(), 0);
+    }
+
+    private static void divisorsAreLookedAt(Source source) {
+        for (String line : source.all("(?m)^.*[/%].*$", 0)) {
+            boolean safe = line.strip().matches("return (\\w+) == 0 \\? 0 : \\w+ / \\1;");
+            DUE.same("rule 7, a divisor is looked at: " + line.strip(), safe ? 1 : 0, 1);
+        }
+    }
+
+    private static void everyLoopCountsToABound(Source source) {
+        Pattern counted = Pattern.compile("for \\(int (\\w+) = \\d+; \\1 < \\w+( && [^;|]+)?; \\1\\+\\+\\) \\{");
+        for (String head : source.all("\\b(?:for|while|do)\\b[^\n]*", 0)) {
+            boolean bound = counted.matcher(head.strip()).matches();
+            DUE.same("rule 8, a counter against a bound: " + head, bound ? 1 : 0, 1);
+        }
+    }
+
+    private static void methodsAreShallowAndShort(Map<String, String> bodies) {
         DUE.same("methods found", bodies.size(), SmtCore.class.getDeclaredMethods().length);
         for (Map.Entry<String, String> method : bodies.entrySet()) {
             String name = method.getKey();
@@ -30,25 +122,13 @@ public final class LanguageTest {
             long lines = method.getValue().lines().count();
             DUE.same("rule 10, " + name + " has " + lines + " lines", lines > MOST_LINES ? 1 : 0, 0);
         }
-        noCallInsideArguments(bare, bodies);
-        everyLoopCountsToABound(bare);
-        fewFields();
-        DUE.end();
-    }
-
-    /** Each method's text by its name; the class has no two methods of one name. */
-    private static Map<String, String> methodsOf(String bare) {
-        Map<String, String> bodies = new LinkedHashMap<>();
-        Pattern whole = Pattern.compile("(?ms)^    (?:public|private)(?: static)? \\w+ (\\w+)\\(.*?^    }");
-        Matcher method = whole.matcher(bare);
-        while (method.find()) {
-            bodies.put(method.group(1), method.group().substring(method.group().indexOf('{')));
+        for (Method method : SmtCore.class.getDeclaredMethods()) {
+            DUE.same("rule 10, parameters of " + method, method.getParameterCount() > MOST_PARAMETERS ? 1 : 0, 0);
         }
-        return bodies;
     }
 
     private static int depth(String name, Map<String, String> bodies, int above) {
-        if (above > bodies.size()) {
+        if (above > 2 * MOST_DEPTH) {
             return ENDLESS;
         }
         int deepest = 0;
@@ -73,15 +153,6 @@ public final class LanguageTest {
             String arguments = bare.substring(found.end(), end - 1);
             DUE.same("rule 10, a call inside " + found.group(1) + "(" + arguments + ")",
                 call.matcher(arguments).find() ? 1 : 0, 0);
-        }
-    }
-
-    private static void everyLoopCountsToABound(String bare) {
-        Matcher loop = Pattern.compile("\\b(?:for|while|do)\\b[^\n]*").matcher(bare);
-        Pattern counted = Pattern.compile("for \\(int (\\w+) = \\d+; \\1 < \\w+( && [^;|]+)?; \\1\\+\\+\\) \\{");
-        while (loop.find()) {
-            String head = loop.group().strip();
-            DUE.same("rule 8, a counter against a bound: " + head, counted.matcher(head).matches() ? 1 : 0, 1);
         }
     }
 

@@ -10,7 +10,7 @@ final class NewObjectEdges {
 
     static void add(Sentences s) {
         s.under("Promise 1: A new object");
-        s.plain("`SmtCore(int threads, int width, int spare, int window)`:");
+        s.declares("SmtCore(int threads, int width, int spare, int window)");
         s.holds("threads is clamped into 1 to 4,", NewObjectEdges::threadsClamped);
         s.holds("width (instructions a cycle) into 1 to 4,", NewObjectEdges::widthClamped);
         s.holds("spare (physical registers beyond eight a thread) into 2 to 24,", NewObjectEdges::spareClamped);

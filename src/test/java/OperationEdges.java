@@ -8,7 +8,7 @@ final class OperationEdges {
 
     static void add(Sentences s) {
         s.under("Terms");
-        s.plain("0 HALT the thread stops, see below");
+        s.holds("0 HALT the thread stops, see below", OperationEdges::halt);
         s.holds("1 SET R[d] = imm", OperationEdges::set);
         s.holds("2 ADD R[d] = R[a] + R[b]", OperationEdges::add);
         s.holds("3 SUB R[d] = R[a] - R[b]", OperationEdges::subtract);
@@ -51,6 +51,13 @@ final class OperationEdges {
         x.due(7 * p + next).digest(0);
         x.due(555).reg(0, 5);
         x.due(SmtCore.RUNNING).status(0);
+    }
+
+    private static void halt(Edge e) {
+        for (int imm : new int[] {LEAST, -1, 0, 1, GREATEST}) {
+            e.stops(e.at(0, Asm.HALT, 3, 4, imm), SmtCore.HALTED);
+            e.stops(e.at(23, Asm.HALT, 0, 0, imm), SmtCore.HALTED);
+        }
     }
 
     private static void set(Edge e) {

@@ -10,27 +10,27 @@ final class ReadEdges {
 
     static void add(Sentences s) {
         s.under("Promise 10: reg");
-        s.plain("`int reg(int thread, int r)`:");
+        s.declares("int reg(int thread, int r)");
         s.holds("The register's value; 0 if the thread is not good or r is not in 0 to 7.", ReadEdges::register);
         s.holds("Changes nothing (nor do the calls below).", ReadEdges::readingChangesNothing);
         s.under("Promise 11: mem");
-        s.plain("`int mem(int thread, int a)`:");
+        s.declares("int mem(int thread, int a)");
         s.holds("The memory cell's value; 0 if the thread is not good or a is not in 0 to 15.", ReadEdges::cell);
         s.under("Promise 12: pc");
-        s.plain("`int pc(int thread)`:");
+        s.declares("int pc(int thread)");
         s.holds("The counter; 0 if the thread is not good.", ReadEdges::counter);
         s.under("Promise 13: status");
-        s.plain("`int status(int thread)`:");
+        s.declares("int status(int thread)");
         s.holds("The status; BAD_THREAD if the thread is not good.", ReadEdges::status);
         s.under("Promise 14: retired");
-        s.plain("`int retired(int thread)`:");
+        s.declares("int retired(int thread)");
         s.holds("How many instructions retired since the start or the last reset (wrapping);", ReadEdges::retired);
         s.holds("0 if the thread is not good.", ReadEdges::retiredOfNoThread);
         s.under("Promise 15: digest");
-        s.plain("`int digest(int thread)`:");
+        s.declares("int digest(int thread)");
         s.holds("The digest; 0 if the thread is not good.", ReadEdges::digest);
         s.under("Promise 16: size");
-        s.plain("`int size(int thread)`:");
+        s.declares("int size(int thread)");
         s.holds("How many instructions the thread's code has; 0 if the thread is not good.", ReadEdges::size);
     }
 

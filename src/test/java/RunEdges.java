@@ -11,13 +11,13 @@ final class RunEdges {
 
     static void add(Sentences s) {
         s.under("Promise 8: run");
-        s.plain("`int run(int n)`:");
+        s.declares("int run(int n)");
         s.holds("n below 0 counts as 0, above 40 as 40.", RunEdges::clampsSteps);
         s.holds("Every thread makes steps as long as its status is RUNNING and it has made fewer than n steps in this"
             + " call.", RunEdges::fewerThanN);
         s.holds("Answers how many instructions retired in this call, over all threads.", RunEdges::answersRetired);
         s.under("Promise 9: runOne");
-        s.plain("`int runOne(int thread, int n)`:");
+        s.declares("int runOne(int thread, int n)");
         s.holds("As run(n), but only the named thread makes steps.", RunEdges::onlyTheNamed);
         s.holds("Thread not good: BAD_THREAD, nothing changes.", RunEdges::refusedRunOne);
     }

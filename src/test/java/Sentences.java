@@ -31,7 +31,13 @@ final class Sentences {
         broken += edge.wrongs() == 0 ? 0 : 1;
     }
 
-    /** Text that names no edge of its own. */
+    /** The declaration at the head of a promise, without its quotes and colon. */
+    void declares(String declaration) {
+        String due = "public " + Face.bare(declaration);
+        holds("`" + declaration + "`:", edge -> edge.right(Face.shown().contains(due), () -> "not shown: " + due));
+    }
+
+    /** Text that says nothing that a call could show. */
     void plain(String text) {
         quote(text);
     }

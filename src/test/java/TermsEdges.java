@@ -14,16 +14,16 @@ final class TermsEdges {
         s.holds("Every thread has code of its own (at most 24 instructions),", TermsEdges::codeOf24);
         s.holds("eight registers (0 to 7),", TermsEdges::eightRegisters);
         s.holds("sixteen memory cells (0 to 15),", TermsEdges::sixteenCells);
-        s.plain("a program counter and a status.");
+        s.holds("a program counter and a status.", TermsEdges::ownCounterAndStatus);
         s.holds("No thread can read or change what belongs to another.", TermsEdges::threadsAreApart);
         s.holds("All values are 32-bit and wrap as Java's int does.", TermsEdges::valuesWrap);
         s.holds("AN INSTRUCTION has an operation op (0 to 15),", TermsEdges::firstAndLastOperation);
         s.holds("three register numbers d, a, b (0 to 7 each)", TermsEdges::registerNumbers);
         s.holds("and a constant imm (any int).", TermsEdges::anyConstant);
         s.holds("The registers come packed in one number: regs = d + 8 * a + 64 * b.", TermsEdges::packing);
-        s.plain("R[x] is register x of the thread, M[x] its memory cell x;");
+        s.holds("R[x] is register x of the thread, M[x] its memory cell x;", TermsEdges::samePlaces);
         s.holds("all reads come before the write.", TermsEdges::readsBeforeTheWrite);
-        s.plain("p is the program counter of the instruction.");
+        s.holds("p is the program counter of the instruction.", TermsEdges::counterOfTheInstruction);
     }
 
     private static void codeOf24(Edge e) {
@@ -81,6 +81,34 @@ final class TermsEdges {
             x.due(0).mem(t, -1);
             x.due(0).mem(t, 16);
         }
+    }
+
+    /** Thread t stops on its instruction t, each in a way of its own. */
+    private static void ownCounterAndStatus(Edge e) {
+        int[] stopping = {Asm.HALT, Asm.DIV, Asm.LOAD};
+        Watched x = e.core(4);
+        for (int t = 0; t < 4; t++) {
+            x.restart(t, 100 * (t + 1));
+            for (int i = 0; i < t; i++) {
+                x.emit(t, Asm.SET, 1, i);
+            }
+            if (t < stopping.length) {
+                x.emit(t, stopping[t], 0, -1);
+            }
+        }
+        for (int t = 0; t < 4; t++) {
+            x.due(100 * (t + 1)).pc(t);
+            x.due(SmtCore.RUNNING).status(t);
+            x.restart(t, 0);
+        }
+        x.due(0 + 1 + 2 + 3).run(40);
+        for (int t = 0; t < 4; t++) {
+            x.due(t).pc(t);
+        }
+        x.due(SmtCore.HALTED).status(0);
+        x.due(SmtCore.DIVIDE_TRAP).status(1);
+        x.due(SmtCore.ADDRESS_TRAP).status(2);
+        x.due(SmtCore.PC_TRAP).status(3);
     }
 
     private static void threadsAreApart(Edge e) {
@@ -272,6 +300,48 @@ final class TermsEdges {
             {448, 0, 0, 7}, {511, 7, 7, 7}, {71, 7, 0, 1}, {72, 0, 1, 1}, {455, 7, 0, 7}};
         for (int[] one : cases) {
             subtracts(e, one[0], one[1], one[2], one[3]);
+        }
+    }
+
+    /** What an instruction calls R[x] and M[x] is what setReg, reg, setMem and mem reach with x. */
+    private static void samePlaces(Edge e) {
+        for (int t = 0; t < 4; t++) {
+            Watched x = e.core(4);
+            for (int r = 0; r < 8; r++) {
+                int other = (r + 3) % 8;
+                x.reset(t);
+                x.emit(t, Asm.ADDI, Asm.regs(other, r, 0), 5);
+                x.setReg(t, r, 100 * t + r + 1);
+                x.due(1).runOne(t, 1);
+                x.due(100 * t + r + 6).reg(t, other);
+            }
+            for (int a = 0; a < 16; a++) {
+                x.reset(t);
+                x.emit(t, Asm.LOAD, Asm.regs(2, 1, 0), a);
+                x.emit(t, Asm.STORE, Asm.regs(0, 1, 2), 15 - a);
+                x.setMem(t, a, 1000 * t + a + 1);
+                x.due(2).runOne(t, 2);
+                x.due(1000 * t + a + 1).reg(t, 2);
+                x.due(1000 * t + a + 1).mem(t, 15 - a);
+            }
+        }
+    }
+
+    /** However the counter came there: by restart, or by the instructions before. */
+    private static void counterOfTheInstruction(Edge e) {
+        for (int p = 0; p < 24; p++) {
+            Watched called = e.at(p, Asm.CALL, 3, 4, 0);
+            called.due(1).run(1);
+            called.due(p + 1).reg(0, 5);
+            called.due(7 * p + p + 1).digest(0);
+            Watched reached = e.core(1);
+            for (int i = 0; i < p; i++) {
+                reached.emit(0, Asm.SET, 1, -7 * i);
+            }
+            reached.emit(0, Asm.CALL, Asm.regs(5, 0, 0), 0);
+            reached.due(p + 1).run(p + 1);
+            reached.due(p + 1).reg(0, 5);
+            reached.due(7 * p + p + 1).digest(0);
         }
     }
 

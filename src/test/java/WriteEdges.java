@@ -12,26 +12,26 @@ final class WriteEdges {
 
     static void add(Sentences s) {
         s.under("Promise 4: setReg");
-        s.plain("`int setReg(int thread, int r, int value)`:");
+        s.declares("int setReg(int thread, int r, int value)");
         s.holds("Writes a register.", WriteEdges::writesRegister);
         s.holds("Thread not good: BAD_THREAD;", WriteEdges::setRegThread);
         s.holds("r not in 0 to 7: BAD_INDEX;", WriteEdges::setRegIndex);
         s.holds("refused calls change nothing.", WriteEdges::refusedSetReg);
         s.holds("Else answers 0.", WriteEdges::setRegAnswers);
         s.under("Promise 5: setMem");
-        s.plain("`int setMem(int thread, int a, int value)`:");
+        s.declares("int setMem(int thread, int a, int value)");
         s.holds("Writes a memory cell.", WriteEdges::writesCell);
         s.holds("Thread not good: BAD_THREAD;", WriteEdges::setMemThread);
         s.holds("a not in 0 to 15: BAD_INDEX;", WriteEdges::setMemIndex);
         s.holds("refused calls change nothing.", WriteEdges::refusedSetMem);
         s.holds("Else answers 0.", WriteEdges::setMemAnswers);
         s.under("Promise 6: restart");
-        s.plain("`int restart(int thread, int pc)`:");
+        s.declares("int restart(int thread, int pc)");
         s.holds("Sets the counter to pc (any int) and the status to RUNNING.", WriteEdges::restarts);
         s.holds("Thread not good: BAD_THREAD, nothing changes.", WriteEdges::refusedRestart);
         s.holds("Else answers 0.", WriteEdges::restartAnswers);
         s.under("Promise 7: reset");
-        s.plain("`int reset(int thread)`:");
+        s.declares("int reset(int thread)");
         s.holds("Puts the thread back to how it started (no code, all 0, RUNNING).", WriteEdges::resets);
         s.holds("Thread not good: BAD_THREAD, nothing changes.", WriteEdges::refusedReset);
         s.holds("Else answers 0.", WriteEdges::resetAnswers);
